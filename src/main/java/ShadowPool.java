@@ -132,18 +132,16 @@ public final class ShadowPool {
     }
 
     public int sun() {
-        return sunIn(now.hour);
+        return sunAt(hourOfDay(now.hour));
     }
 
     public boolean isNoon() {
-        return noonIn(now.hour);
+        return noonAt(hourOfDay(now.hour));
     }
 
     public int hoursUntilNoon() {
-        if (noonIn(now.hour)) {
-            return 0;
-        }
-        return Math.floorMod(FIRST_HOUR_OF_NOON - hourOfDay(now.hour), DAY);
+        int ofDay = hourOfDay(now.hour);
+        return noonAt(ofDay) ? 0 : Math.floorMod(FIRST_HOUR_OF_NOON - ofDay, DAY);
     }
 
     // ---- what walkers are
@@ -193,7 +191,7 @@ public final class ShadowPool {
         if (one == null) {
             throw new IndexOutOfBoundsException("no such walker");
         }
-        return one.shadowIn(now.hour);
+        return one.shadowUnder(sun());
     }
 
     public int longestShadow() {
@@ -201,9 +199,10 @@ public final class ShadowPool {
         int length = -1;
         for (int i = 0; i < now.count; i++) {
             Walker one = now.find(i);
-            if (one != null && one.shadowIn(now.hour) > length) {
+            int its = one == null ? -1 : one.shadowUnder(sun());
+            if (its > length) {
                 longest = i;
-                length = one.shadowIn(now.hour);
+                length = its;
             }
         }
         return longest;
@@ -216,7 +215,7 @@ public final class ShadowPool {
         if (one == null) {
             throw new IndexOutOfBoundsException("no such walker");
         }
-        return one.costIn(now.hour);
+        return one.costUnder(sun());
     }
 
     public int ownPartOf(int walker) throws IndexOutOfBoundsException {
@@ -224,7 +223,7 @@ public final class ShadowPool {
         if (one == null) {
             throw new IndexOutOfBoundsException("no such walker");
         }
-        return one.ownPartIn(now.hour);
+        return one.ownPart(one.costUnder(sun()), isNoon());
     }
 
     public int poolPartOf(int walker) throws IndexOutOfBoundsException {
@@ -232,7 +231,8 @@ public final class ShadowPool {
         if (one == null) {
             throw new IndexOutOfBoundsException("no such walker");
         }
-        return now.poolPart(one);
+        int claim = claimNow(one);
+        return claim - now.reinsuredPart(claim);
     }
 
     public int reinsuredPartOf(int walker) throws IndexOutOfBoundsException {
@@ -240,7 +240,7 @@ public final class ShadowPool {
         if (one == null) {
             throw new IndexOutOfBoundsException("no such walker");
         }
-        return now.reinsuredPart(one);
+        return now.reinsuredPart(claimNow(one));
     }
 
     // ---- how the pool stands
@@ -333,7 +333,7 @@ public final class ShadowPool {
         int together = 0;
         for (int i = 0; i < now.count; i++) {
             Walker one = now.find(i);
-            together += one == null ? 0 : one.shadowIn(now.hour);
+            together += one == null ? 0 : one.shadowUnder(sun());
         }
         return now.count == 0 ? 0.0 : (double) together / (double) now.count;
     }
@@ -366,14 +366,21 @@ public final class ShadowPool {
         d = chain(d, one.net);
         d = chain(d, one.wobble);
         d = chain(d, one.falls);
-        d = chain(d, one.shadowIn(now.hour));
-        d = chain(d, one.costIn(now.hour));
-        d = chain(d, now.poolPart(one));
-        return chain(d, now.reinsuredPart(one));
+        d = chain(d, one.shadowUnder(sun()));
+        d = chain(d, one.costUnder(sun()));
+        int claim = claimNow(one);
+        int reinsured = now.reinsuredPart(claim);
+        d = chain(d, claim - reinsured);
+        return chain(d, reinsured);
     }
 
     private static long chain(long d, int x) {
         return d * DIGEST_FACTOR + x;
+    }
+
+    private int claimNow(Walker one) {
+        int cost = one.costUnder(sun());
+        return cost - one.ownPart(cost, isNoon());
     }
 
     private int fundBehind(int hours, int rate, int limit) {
@@ -395,13 +402,12 @@ public final class ShadowPool {
         return Math.floorMod(hour, DAY);
     }
 
-    private static int sunIn(int hour) {
-        int ofDay = hourOfDay(hour);
+    private static int sunAt(int ofDay) {
         return ofDay <= FIRST_HOUR_OF_NOON ? ofDay + 1 : DAY - ofDay;
     }
 
-    private static boolean noonIn(int hour) {
-        return within(hourOfDay(hour), FIRST_HOUR_OF_NOON, LAST_HOUR_OF_NOON);
+    private static boolean noonAt(int ofDay) {
+        return ofDay >= FIRST_HOUR_OF_NOON && ofDay <= LAST_HOUR_OF_NOON;
     }
 
     /** One who walks: what is known of the rope, the net and the wobble. */
@@ -442,30 +448,24 @@ public final class ShadowPool {
             member = other.member;
         }
 
-        private int shadowIn(int hour) {
-            int place = sunIn(hour);
-            return place < 1 ? 0 : SHADOW_FACTOR * height / place;
+        private int shadowUnder(int sun) {
+            return sun < 1 ? 0 : SHADOW_FACTOR * height / sun;
         }
 
-        private int costIn(int hour) {
-            return Math.max(0, shadowIn(hour) - NET_FACTOR * net);
+        private int costUnder(int sun) {
+            return Math.max(0, shadowUnder(sun) - NET_FACTOR * net);
         }
 
-        private int ownPartIn(int hour) {
-            int cost = costIn(hour);
+        // all for one who is no member, so that the claim of that one is 0
+        private int ownPart(int cost, boolean noon) {
             if (!member) {
                 return cost;
             }
-            return Math.min(cost, noonIn(hour) ? OWN_PART_AT_NOON : OWN_PART_OTHERWISE);
+            return Math.min(cost, noon ? OWN_PART_AT_NOON : OWN_PART_OTHERWISE);
         }
 
-        // 0 for one who is no member, as that one pays all
-        private int claimIn(int hour) {
-            return costIn(hour) - ownPartIn(hour);
-        }
-
-        private int wobbleBehind(int before, int hour) {
-            int more = height / HEIGHT_PER_WOBBLE + (noonIn(hour) ? WOBBLE_AT_NOON : WOBBLE_OTHERWISE);
+        private int wobbleBehind(int before, boolean noon) {
+            int more = height / HEIGHT_PER_WOBBLE + (noon ? WOBBLE_AT_NOON : WOBBLE_OTHERWISE);
             return Math.max(0, before + more - skill);
         }
 
@@ -473,7 +473,7 @@ public final class ShadowPool {
         private int fallsBehind(int hour) {
             int reached = wobble;
             for (int hours = 1; hours <= FORESIGHT; hours++) {
-                reached = wobbleBehind(reached, hour + hours - 1);
+                reached = wobbleBehind(reached, noonAt(hourOfDay(hour + hours - 1)));
                 if (reached >= FALLING_WOBBLE) {
                     return hours;
                 }
@@ -517,22 +517,18 @@ public final class ShadowPool {
 
         /** The walker of this number, or null if there is none. */
         private Walker find(int number) {
-            return number >= 0 && number < count ? place(number) : null;
-        }
-
-        private Walker place(int number) {
-            return number >= 0 && number < row.length ? row[number] : null;
+            return number >= 0 && number < count && number < row.length ? row[number] : null;
         }
 
         /** The number of the new walker, or -1 if there is no place left. */
         private int enter(int height, int skill, int net) {
-            Walker one = place(count);
-            if (one == null) {
+            int number = count;
+            if (number < 0 || number >= row.length || row[number] == null) {
                 return -1;
             }
-            one.begin(height, skill, net);
+            row[number].begin(height, skill, net);
             count++;
-            return count - 1;
+            return number;
         }
 
         private void copyFrom(Book other) {
@@ -561,13 +557,8 @@ public final class ShadowPool {
             return found;
         }
 
-        private int reinsuredPart(Walker one) {
-            int above = Math.max(0, one.claimIn(hour) - retention);
-            return Math.min(above, limit);
-        }
-
-        private int poolPart(Walker one) {
-            return one.claimIn(hour) - reinsuredPart(one);
+        private int reinsuredPart(int claim) {
+            return Math.min(Math.max(0, claim - retention), limit);
         }
 
         /** Lets the hours go by and counts the falls in them. */
@@ -580,13 +571,14 @@ public final class ShadowPool {
         }
 
         private int letOneHourGoBy() {
-            if (hourOfDay(hour) == 0) {
+            int ofDay = hourOfDay(hour);
+            if (ofDay == 0) {
                 payDues();
             }
             int falls = 0;
             for (int i = 0; i < count; i++) {
                 Walker one = find(i);
-                falls += one != null && walk(one) ? 1 : 0;
+                falls += one != null && walk(one, sunAt(ofDay), noonAt(ofDay)) ? 1 : 0;
             }
             hour++;
             return falls;
@@ -602,14 +594,17 @@ public final class ShadowPool {
         }
 
         /** Whether the walker falls in this hour. */
-        private boolean walk(Walker one) {
-            one.wobble = one.wobbleBehind(one.wobble, hour);
+        private boolean walk(Walker one, int sun, boolean noon) {
+            one.wobble = one.wobbleBehind(one.wobble, noon);
             if (one.wobble < FALLING_WOBBLE) {
                 return false;
             }
             // paid before the net is 1 less: the cost counts the net that caught this fall
-            fund -= poolPart(one);
-            reinsurersLoss += reinsuredPart(one);
+            int cost = one.costUnder(sun);
+            int claim = cost - one.ownPart(cost, noon);
+            int reinsured = reinsuredPart(claim);
+            fund -= claim - reinsured;
+            reinsurersLoss += reinsured;
             one.fall();
             return true;
         }

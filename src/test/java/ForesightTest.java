@@ -129,6 +129,8 @@ public final class ForesightTest {
         premiums(c, 8, 220, -1); // the same, an hour too late
         premiums(c, 0, 220, 97);
         premiums(c, 0, 219, -1); // 11 a day: 1 is left behind 100 hours
+        exactlyNothing(c);
+        rates(c);
         recovers(c);
     }
 
@@ -139,6 +141,35 @@ public final class ForesightTest {
         }
         x.reinsure(0, limit);
         c.due("hoursUntilRuin() from " + passed + " on with the limit " + limit, x.hoursUntilRuin(), due);
+    }
+
+    // Ten premiums of 10, the last of them in the hundredth hour from now
+    private static void exactlyNothing(Check c) {
+        ShadowPool x = new ShadowPool();
+        x.reinsure(0, 180);
+        x.pass(9);
+        c.due("hoursUntilRuin(), 0 behind 100 hours", x.hoursUntilRuin(), -1);
+        x.pass(60);
+        x.pass(40);
+        c.due("fund()", x.fund(), 0);
+        c.due("hoursUntilRuin(), 0 is no ruin", x.hoursUntilRuin(), 12);
+    }
+
+    // The rate and the limit that are set count, not those that another question tried
+    private static void rates(Check c) {
+        ShadowPool x = new ShadowPool();
+        x.addWalker(1, 5, 0);
+        int[] rates = {9, 0, 5, 2};
+        int[] due = {97, 49, 73, 61};
+        for (int i = 0; i < 4; i++) {
+            x.setRate(rates[i]);
+            x.reinsure(0, 400);
+            c.due("fairRate()", x.fairRate(), -1);
+            c.due("hoursUntilRuin() with the rate " + rates[i], x.hoursUntilRuin(), due[i]);
+            c.due("bestLimit()", x.bestLimit(), 0);
+            c.due("hoursUntilRuin() with the rate " + rates[i], x.hoursUntilRuin(), due[i]);
+            c.due("fundIn(48)", x.fundIn(48), 100 - 4L * (21 - rates[i]));
+        }
     }
 
     // The first hour of ruin counts, even if the next rates lift the fund above 0 again
@@ -178,6 +209,11 @@ public final class ForesightTest {
         bestLimitOf(c, 27, 2, 0, 116, 2, 60);
         bestLimitOf(c, 29, 2, 1, 106, 11, 80);
         bestLimitOf(c, 30, 4, 3, 45, 2, 100);
+        // others would be the best behind 47 hours, or behind 49
+        bestLimitOf(c, 17, 2, 7, 55, 1, 40);
+        bestLimitOf(c, 14, 2, 3, 29, 13, 60);
+        bestLimitOf(c, 28, 5, 7, 94, 12, 0);
+        bestLimitOf(c, 24, 0, 0, 60, 23, 80);
         // of two that are as good, the smaller
         bestLimitOf(c, 30, 4, 7, 172, 11, 0);
         bestLimitOf(c, 12, 2, 3, 9, 7, 20);
@@ -245,6 +281,11 @@ public final class ForesightTest {
         x.reinsure(0, 180);
         c.due("fairRate(), 10 a day of one", x.fairRate(), -1);
         fairRateByTrial(c);
+        // others would do behind 47 hours, or behind 49
+        c.due("fairRate()", one(22, 5, 0, 13).fairRate(), 4);
+        c.due("fairRate()", one(6, 1, 2, 5).fairRate(), 7);
+        c.due("fairRate()", one(11, 3, 1, 6).fairRate(), 0);
+        c.due("fairRate()", one(22, 5, 1, 6).fairRate(), 0);
     }
 
     private static void fairRateByTrial(Check c) {
